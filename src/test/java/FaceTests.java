@@ -1,0 +1,124 @@
+import java.lang.reflect.Constructor;
+import java.lang.reflect.Field;
+import java.lang.reflect.Method;
+import java.lang.reflect.Modifier;
+import java.nio.file.Files;
+import java.nio.file.Path;
+import java.util.ArrayList;
+import java.util.List;
+import java.util.Set;
+import java.util.TreeSet;
+import java.util.regex.Matcher;
+import java.util.regex.Pattern;
+
+/** The public face, and the language rules as far as they can be told from the class and its text. */
+public final class FaceTests {
+    private static final Path SOURCE = Path.of("src/main/java/PatternForge.java");
+    private static int wrong = 0;
+
+    private static void must(String what, boolean holds) {
+        if (!holds) {
+            wrong++;
+            System.out.println("does not hold: " + what);
+        }
+    }
+
+    private static void face() {
+        Class<?> type = PatternForge.class;
+        must("public and final", Modifier.isPublic(type.getModifiers()) && Modifier.isFinal(type.getModifiers()));
+        must("one class", type.getDeclaredClasses().length == 0 && type.getPackageName().isEmpty());
+        Set<String> due = new TreeSet<>(List.of("int con(int)", "int token(int,int)", "int row(int)", "int drop(int)",
+                "int give()", "int run(int)", "int result(int)", "int ran(int)", "int use()", "int taken(int)",
+                "long count(int,int,int)", "int useless(int)", "int open(int)", "int witness(int,int)"));
+        Set<String> names = new TreeSet<>();
+        for (String method : due) {
+            names.add(method.substring(method.indexOf(' ') + 1, method.indexOf('(')));
+        }
+        Set<String> there = new TreeSet<>();
+        for (Method method : type.getDeclaredMethods()) {
+            if (Modifier.isPublic(method.getModifiers())) {
+                there.add(method.toString().replace("public ", "").replace("PatternForge.", ""));
+            } else {
+                must(method + " is private", Modifier.isPrivate(method.getModifiers()));
+                must(method + " has a name of its own", !names.contains(method.getName()));
+            }
+            must(method + " has at most 7 parameters", method.getParameterCount() <= 7);
+        }
+        must("the methods are " + due + ", not " + there, due.equals(there));
+        Constructor<?>[] constructors = type.getDeclaredConstructors();
+        must("one public constructor", constructors.length == 1 && Modifier.isPublic(constructors[0].getModifiers())
+                && constructors[0].getParameterCount() == 0);
+    }
+
+    private static void fields() throws IllegalAccessException {
+        List<String> constants = new ArrayList<>();
+        int own = 0;
+        for (Field field : PatternForge.class.getDeclaredFields()) {
+            boolean fixed = Modifier.isStatic(field.getModifiers());
+            Class<?> kind = field.getType().isArray() ? field.getType().getComponentType() : field.getType();
+            must(field + " is of numbers", kind == int.class || kind == long.class || kind == boolean.class);
+            must(field + " is a constant", !fixed || Modifier.isFinal(field.getModifiers()) && !field.getType().isArray());
+            if (Modifier.isPublic(field.getModifiers())) {
+                must(field + " is static", fixed);
+                constants.add(field.getName() + " " + field.getInt(null));
+            } else {
+                must(field + " is private", Modifier.isPrivate(field.getModifiers()));
+            }
+            own += fixed ? 0 : 1;
+        }
+        constants.sort(null);
+        must("the constants, not " + constants, constants.equals(
+                List.of("BIG 3", "LONG 2", "OK 0", "REFUSED -1", "STUCK 1", "WRONG -2")));
+        must("at most 40 fields, not " + own, own <= 40);
+    }
+
+    private static void text() throws java.io.IOException {
+        String text = Files.readString(SOURCE).replaceAll("(?s)/\\*.*?\\*/", "").replaceAll("//[^\n]*", "");
+        for (String word : List.of("import", "package", "null", "throw", "try", "catch", "synchronized", "assert",
+                "instanceof", "String", "Math", "Integer", "System", "Arrays", "float", "double", "this", "->", "::")) {
+            boolean there = Pattern.compile(word.matches("\\w+") ? "\\b" + word + "\\b" : word).matcher(text).find();
+            must("without " + word, !there);
+        }
+        int methods = text.indexOf("public PatternForge()");
+        must("arrays are made in fields alone", methods > 0 && !text.substring(methods).contains("new "));
+        depths(text.substring(methods));
+    }
+
+    /** No recursion, calls at most six deep, methods of at most sixty lines. */
+    private static void depths(String text) {
+        List<String> names = new ArrayList<>();
+        List<String> bodies = new ArrayList<>();
+        Matcher heads = Pattern.compile("(?m)^    (?:public|private)(?: static)? \\w+ (\\w+)\\([^)]*\\) \\{$(.*?)^    \\}$",
+                Pattern.DOTALL | Pattern.MULTILINE).matcher(text);
+        while (heads.find()) {
+            names.add(heads.group(1));
+            bodies.add(heads.group(2));
+            must(heads.group(1) + " is short", heads.group(2).lines().count() <= 60);
+        }
+        must("all methods are read", names.size() == PatternForge.class.getDeclaredMethods().length);
+        int[] depth = new int[names.size()];
+        // Each round can make a chain one call longer; one that still grows after six has no end or is too deep.
+        for (int round = 0; round <= names.size(); round++) {
+            for (int m = 0; m < names.size(); m++) {
+                int deepest = 0;
+                for (int other = 0; other < names.size(); other++) {
+                    boolean called = Pattern.compile("\\b" + names.get(other) + "\\(").matcher(bodies.get(m)).find();
+                    deepest = called ? Math.max(deepest, depth[other]) : deepest;
+                }
+                depth[m] = deepest + 1;
+            }
+        }
+        for (int m = 0; m < names.size(); m++) {
+            must(names.get(m) + " goes at most six deep, not " + depth[m], depth[m] <= 6);
+        }
+    }
+
+    public static void main(String[] args) throws Exception {
+        face();
+        fields();
+        text();
+        if (wrong != 0) {
+            System.exit(1);
+        }
+    }
+}
