@@ -307,6 +307,11 @@ public final class PromiseTests {
         due("7 OR of a NOT", run(x, 3, "2 3 10"), OK);
         due("7 nor", run(x, 3, "2 3 3"), STUCK);
         due("7 nor", run(x, 3, "2 0 10"), STUCK);
+        // The last of a pattern's 12 tokens stands for what is left.
+        x.drop(3);
+        row(x, 3, "1".repeat(11) + "w w");
+        due("7 deep", run(x, 3, "1".repeat(11) + "2 3 0"), OK);
+        same("7 what is left", resultOf(x), "230");
     }
 
     private static void promise7Orders() {
