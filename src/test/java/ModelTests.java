@@ -485,9 +485,10 @@ public final class ModelTests {
                     check("give()", forge.give(), model.give());
                 }
                 case 10, 11, 12, 13, 14 -> {
-                    check("run(" + f + ")", forge.run(f), model.run(f));
-                    if (forge.ran(0) >= 0) {
-                        statuses[model.status]++;
+                    int status = model.run(f);
+                    check("run(" + f + ")", forge.run(f), status);
+                    if (status >= 0) {
+                        statuses[status]++;
                     }
                     for (int what = 0; what < 3; what++) {
                         check("ran(" + what + ")", forge.ran(what), model.ran(what));

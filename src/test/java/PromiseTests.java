@@ -1,80 +1,5 @@
 /** Each promise by examples whose answers were worked out by hand from the document. */
-public final class PromiseTests {
-    private static final int ANY = 0, VAR = 1, CON = 2, OR = 3, NOT = 4, CALL = 5;
-    private static final int REFUSED = -1, WRONG = -2, OK = 0, STUCK = 1, LONG = 2, BIG = 3;
-    private static final int FEW = Integer.MIN_VALUE, MANY = Integer.MAX_VALUE;
-
-    private static int wrong = 0;
-
-    private static void due(String what, long got, long want) {
-        if (got != want) {
-            wrong++;
-            System.out.println(what + ": answered " + got + ", due is " + want);
-        }
-    }
-
-    /** Constructors 0 .. with these arities. */
-    private static PatternForge with(int... arities) {
-        PatternForge x = new PatternForge();
-        for (int arity : arities) {
-            x.con(arity);
-        }
-        return x;
-    }
-
-    /** Appends tokens: '_' ANY, 'w' .. 'z' VAR 0 .. 3, '0' .. '5' CON, '|' OR, '!' NOT, 'F' .. 'I' CALL 0 .. 3. */
-    private static void write(PatternForge x, String text) {
-        for (char c : text.replace(" ", "").toCharArray()) {
-            int answer = c == '_' ? x.token(ANY, 0)
-                    : c == '|' ? x.token(OR, 0)
-                    : c == '!' ? x.token(NOT, 0)
-                    : c >= 'w' && c <= 'z' ? x.token(VAR, c - 'w')
-                    : c >= 'F' && c <= 'I' ? x.token(CALL, c - 'F')
-                    : x.token(CON, c - '0');
-            if (answer < 0) {
-                due("token " + c + " of " + text, answer, 1);
-            }
-        }
-    }
-
-    private static int row(PatternForge x, int f, String text) {
-        write(x, text);
-        return x.row(f);
-    }
-
-    private static int give(PatternForge x, String text) {
-        write(x, text);
-        return x.give();
-    }
-
-    private static int run(PatternForge x, int f, String text) {
-        give(x, text);
-        return x.run(f);
-    }
-
-    private static String resultOf(PatternForge x) {
-        StringBuilder text = new StringBuilder();
-        for (int k = 0; x.result(k) >= 0; k++) {
-            text.append(x.result(k));
-        }
-        return text.toString();
-    }
-
-    private static String witnessOf(PatternForge x, int f) {
-        StringBuilder text = new StringBuilder();
-        for (int k = 0; x.witness(f, k) >= 0; k++) {
-            text.append(x.witness(f, k));
-        }
-        return text.toString();
-    }
-
-    private static void same(String what, String got, String want) {
-        if (!got.equals(want)) {
-            wrong++;
-            System.out.println(what + ": got " + got + ", due is " + want);
-        }
-    }
-
+public final class PromiseTests extends Checks {
     private static void promise1() {
         PatternForge x = new PatternForge();
         for (int f = 0; f < 4; f++) {
@@ -640,9 +565,6 @@ public final class PromiseTests {
         promise13();
         promise14And15();
         promise16();
-        if (wrong != 0) {
-            System.out.println(wrong + " answers are not as due");
-            System.exit(1);
-        }
+        end();
     }
 }
