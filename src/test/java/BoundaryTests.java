@@ -315,6 +315,19 @@ public final class BoundaryTests extends Checks {
         due("neither", x.taken(0), -1);
     }
 
+    @Of(value = "Terms", says = "OR what one of both matches, NOT what does not match")
+    private static void orAndNotAtTheLastPlace() {
+        PatternForge x = with(0, 1, 2, 0);
+        row(x, 0, "2 _ | 0 3 0");
+        row(x, 0, "2 _ ! 1 _ 0");
+        String[] values = {"2 1 1 0 0", "2 1 1 0 3", "2 0 1 0", "2 3 1 3", "2 3 2 0 1 0", "2 1 0 0"};
+        int[] rows = {0, 0, -1, -1, 1, 0};
+        for (int i = 0; i < values.length; i++) {
+            give(x, values[i]);
+            due(values[i], x.taken(0), rows[i]);
+        }
+    }
+
     @Of(value = "Terms", says = "NOT what does not match")
     private static void notMatchesAllOrNothing() {
         PatternForge x = with(0, 1);
@@ -375,7 +388,7 @@ public final class BoundaryTests extends Checks {
         due("as many as is due", row(x, 0, "_ 2 1 0 F 0"), 1);
     }
 
-    @Of(value = "Terms", says = "A RESULT is one of at most 12: VAR (one that is in the pattern); CON with results; CALL with one.")
+    @Of(value = "Terms", says = "VAR (one that is in the pattern); CON with results; CALL with one.")
     private static void anyOrNotInResult() {
         PatternForge x = with(0, 1, 2);
         due("ANY", row(x, 0, "w _"), WRONG);
@@ -528,6 +541,24 @@ public final class BoundaryTests extends Checks {
         row(x, 3, "w 1 w");
         due("four", run(x, 2, "2 2 0 10 2 110 1110"), OK);
         same("each its own", resultOf(x), "2 10 2 0 2 10 110".replace(" ", ""));
+    }
+
+    @Of(value = "Terms", says = "What its VARs match they stand for")
+    private static void variablesBesideOtherParts() {
+        PatternForge x = with(0, 1, 2, 0);
+        row(x, 0, "2 w _ w");
+        row(x, 1, "2 w 2 | 0 1 _ ! 3 w");
+        row(x, 2, "2 1 x 2 w 3 2 x w");
+        // The value of the inner call has another shape than the argument.
+        row(x, 3, "2 w x F 2 x w");
+        due("before ANY", run(x, 0, "2 10 3"), OK);
+        same("before ANY", resultOf(x), "10");
+        due("before OR and NOT", run(x, 1, "2 13 2 10 0"), OK);
+        same("before OR and NOT", resultOf(x), "13");
+        due("after and before CON", run(x, 2, "2 1 10 2 0 3"), OK);
+        same("after and before CON", resultOf(x), "2100");
+        due("of an inner call", run(x, 3, "2 0 2 10 3"), OK);
+        same("of an inner call", resultOf(x), "2103");
     }
 
     @Of(value = "Terms", says = "operands from the first to the last")
@@ -869,9 +900,11 @@ public final class BoundaryTests extends Checks {
         for (int f : NO_FUNCTIONS) {
             due("function " + f, x.drop(f), REFUSED);
         }
+        run(x, 0, "0");
         for (int f = 0; f <= 3; f++) {
             due("none is gone of " + f, x.drop(f), 1);
         }
+        due("what was run stays", x.result(0), 0);
     }
 
     // Promise 6
@@ -1169,6 +1202,7 @@ public final class BoundaryTests extends Checks {
         run(x, 0, "0");
         give(x, "1 0");
         due("one", x.use(), 1);
+        due("the run is still the latest", x.use(), 1);
         due("it is the argument", x.run(1), STUCK);
         run(x, 0, tower(40));
         give(x, "0");
@@ -1321,6 +1355,24 @@ public final class BoundaryTests extends Checks {
         for (int size = 1; size <= 5; size++) {
             due("no constructors", x.count(0, 0, size) + x.count(0, -1, size), 0);
             due("none without values", y.count(0, 0, size) + y.count(0, -1, size), 0);
+        }
+    }
+
+    @Of(value = "Promise 12", says = "For how many values of a size")
+    private static void countAfterOtherCalls() {
+        PatternForge x = with(0, 1, 2);
+        row(x, 0, "_ 0");
+        row(x, 1, "2 w x w");
+        long[] due = {1, 1, 2, 4, 9};
+        for (int size = 1; size <= 5; size++) {
+            give(x, "2" + "1".repeat(7) + "0 0");
+            x.taken(0);
+            due("after taken, size " + size, x.count(0, 0, size), due[size - 1]);
+            due("once more, size " + size, x.count(0, 0, size), due[size - 1]);
+            x.run(1);
+            due("after run, size " + size, x.count(0, 0, size), due[size - 1]);
+            due("of another function", x.count(2, -1, 5), 9);
+            due("after that, size " + size, x.count(0, 0, size), due[size - 1]);
         }
     }
 

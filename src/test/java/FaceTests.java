@@ -14,6 +14,12 @@ import java.util.regex.Pattern;
 /** The public face, and the language rules as far as they can be told from the class and its text. */
 public final class FaceTests {
     private static final Path SOURCE = Path.of("src/main/java/PatternForge.java");
+    private static final Set<Class<?>> NUMBERS = Set.of(int.class, long.class, short.class, byte.class, char.class,
+            boolean.class);
+
+    // The rules say "some sixty" and "some forty".
+    private static final int MOST_LINES = 65, MOST_FIELDS = 45;
+
     private static int wrong = 0;
 
     private static void must(String what, boolean holds) {
@@ -56,8 +62,9 @@ public final class FaceTests {
         for (Field field : PatternForge.class.getDeclaredFields()) {
             boolean fixed = Modifier.isStatic(field.getModifiers());
             Class<?> kind = field.getType().isArray() ? field.getType().getComponentType() : field.getType();
-            must(field + " is of numbers", kind == int.class || kind == long.class || kind == boolean.class);
-            must(field + " is a constant", !fixed || Modifier.isFinal(field.getModifiers()) && !field.getType().isArray());
+            must(field + " is of numbers", NUMBERS.contains(kind));
+            must(field + " is a constant", !fixed || Modifier.isFinal(field.getModifiers())
+                    && (field.getType() == int.class || field.getType() == long.class));
             if (Modifier.isPublic(field.getModifiers())) {
                 must(field + " is static", fixed);
                 constants.add(field.getName() + " " + field.getInt(null));
@@ -69,40 +76,77 @@ public final class FaceTests {
         constants.sort(null);
         must("the constants, not " + constants, constants.equals(
                 List.of("BIG 3", "LONG 2", "OK 0", "REFUSED -1", "STUCK 1", "WRONG -2")));
-        must("at most 40 fields, not " + own, own <= 40);
+        must("some forty fields, not " + own, own <= MOST_FIELDS);
     }
 
     private static void text() throws java.io.IOException {
         String text = Files.readString(SOURCE).replaceAll("(?s)/\\*.*?\\*/", "").replaceAll("//[^\n]*", "");
         for (String word : List.of("import", "package", "null", "throw", "try", "catch", "synchronized", "assert",
-                "instanceof", "String", "Math", "Integer", "System", "Arrays", "float", "double", "this", "->", "::")) {
+                "instanceof", "String", "Math", "Integer", "System", "Arrays", "float", "double", "->", "::")) {
             boolean there = Pattern.compile(word.matches("\\w+") ? "\\b" + word + "\\b" : word).matcher(text).find();
             must("without " + word, !there);
         }
-        int methods = text.indexOf("public PatternForge()");
-        must("arrays are made in fields alone", methods > 0 && !text.substring(methods).contains("new "));
-        depths(text.substring(methods));
-    }
-
-    /** No recursion, calls at most six deep, methods of at most sixty lines. */
-    private static void depths(String text) {
         List<String> names = new ArrayList<>();
         List<String> bodies = new ArrayList<>();
-        Matcher heads = Pattern.compile("(?m)^    (?:public|private)(?: static)? \\w+ (\\w+)\\([^)]*\\) \\{$(.*?)^    \\}$",
-                Pattern.DOTALL | Pattern.MULTILINE).matcher(text);
-        while (heads.find()) {
-            names.add(heads.group(1));
-            bodies.add(heads.group(2));
-            must(heads.group(1) + " is short", heads.group(2).lines().count() <= 60);
+        methods(text, names, bodies);
+        must("all methods are read", names.size() == PatternForge.class.getDeclaredMethods().length + 1);
+        for (int m = 0; m < names.size(); m++) {
+            boolean makes = Pattern.compile("\\bnew\\b").matcher(bodies.get(m)).find();
+            must(names.get(m) + " makes nothing", !makes || names.get(m).equals("PatternForge"));
+            must(names.get(m) + " is short", bodies.get(m).lines().count() <= MOST_LINES);
+            must(names.get(m) + " has no call inside of a call's arguments", !callsInArguments(bodies.get(m), names));
         }
-        must("all methods are read", names.size() == PatternForge.class.getDeclaredMethods().length);
+        depths(names, bodies);
+    }
+
+    /** The methods and the constructor: what stands in braces right inside of the class's own, after a bracket. */
+    private static void methods(String text, List<String> names, List<String> bodies) {
+        Matcher heads = Pattern.compile("(\\w+)\\s*\\([^()]*\\)\\s*\\{").matcher(text);
+        int from = 0;
+        while (heads.find(from)) {
+            int level = 1;
+            int at = heads.end();
+            while (at < text.length() && level > 0) {
+                level += text.charAt(at) == '{' ? 1 : text.charAt(at) == '}' ? -1 : 0;
+                at++;
+            }
+            names.add(heads.group(1));
+            bodies.add(text.substring(heads.end(), at));
+            from = at;
+        }
+    }
+
+    private static boolean callsInArguments(String body, List<String> names) {
+        Matcher calls = Pattern.compile("\\b(\\w+)\\s*\\(").matcher(body);
+        while (calls.find()) {
+            if (!names.contains(calls.group(1))) {
+                continue;
+            }
+            int level = 1;
+            int at = calls.end();
+            while (at < body.length() && level > 0) {
+                level += body.charAt(at) == '(' ? 1 : body.charAt(at) == ')' ? -1 : 0;
+                at++;
+            }
+            Matcher inner = Pattern.compile("\\b(\\w+)\\s*\\(").matcher(body.substring(calls.end(), at));
+            while (inner.find()) {
+                if (names.contains(inner.group(1))) {
+                    return true;
+                }
+            }
+        }
+        return false;
+    }
+
+    /** No recursion, and calls at most six deep. */
+    private static void depths(List<String> names, List<String> bodies) {
         int[] depth = new int[names.size()];
-        // Each round can make a chain one call longer; one that still grows after six has no end or is too deep.
+        // Each round can make a chain one call longer; one that has no end grows with each of them.
         for (int round = 0; round <= names.size(); round++) {
             for (int m = 0; m < names.size(); m++) {
                 int deepest = 0;
                 for (int other = 0; other < names.size(); other++) {
-                    boolean called = Pattern.compile("\\b" + names.get(other) + "\\(").matcher(bodies.get(m)).find();
+                    boolean called = Pattern.compile("\\b" + names.get(other) + "\\s*\\(").matcher(bodies.get(m)).find();
                     deepest = called ? Math.max(deepest, depth[other]) : deepest;
                 }
                 depth[m] = deepest + 1;
