@@ -549,16 +549,27 @@ public final class BoundaryTests extends Checks {
         row(x, 0, "2 w _ w");
         row(x, 1, "2 w 2 | 0 1 _ ! 3 w");
         row(x, 2, "2 1 x 2 w 3 2 x w");
-        // The value of the inner call has another shape than the argument.
-        row(x, 3, "2 w x F 2 x w");
         due("before ANY", run(x, 0, "2 10 3"), OK);
         same("before ANY", resultOf(x), "10");
         due("before OR and NOT", run(x, 1, "2 13 2 10 0"), OK);
         same("before OR and NOT", resultOf(x), "13");
         due("after and before CON", run(x, 2, "2 1 10 2 0 3"), OK);
         same("after and before CON", resultOf(x), "2100");
-        due("of an inner call", run(x, 3, "2 0 2 10 3"), OK);
-        same("of an inner call", resultOf(x), "2103");
+    }
+
+    @Of(value = "Terms", says = "What its VARs match they stand for")
+    private static void variablesOfAnInnerCall() {
+        PatternForge x = with(0, 1, 2, 0);
+        row(x, 0, "2 w x G 2 x w");
+        row(x, 1, "2 w x 2 x w");
+        // The value of the inner call has another shape than the argument.
+        due("turned around twice", run(x, 0, "2 0 2 10 3"), OK);
+        same("turned around twice", resultOf(x), "202103");
+        // The caller's own stand for the same after the call.
+        x.drop(0);
+        row(x, 0, "2 w x 2 G 2 x w 2 w x");
+        due("around a call", run(x, 0, "2 10 3"), OK);
+        same("around a call", resultOf(x), "2" + "2103" + "2103");
     }
 
     @Of(value = "Terms", says = "operands from the first to the last")
