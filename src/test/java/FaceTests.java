@@ -82,7 +82,8 @@ public final class FaceTests {
     private static void text() throws java.io.IOException {
         String text = Files.readString(SOURCE).replaceAll("(?s)/\\*.*?\\*/", "").replaceAll("//[^\n]*", "");
         for (String word : List.of("import", "package", "null", "throw", "try", "catch", "synchronized", "assert",
-                "instanceof", "String", "Math", "Integer", "System", "Arrays", "float", "double", "->", "::")) {
+                "instanceof", "String", "Math", "Integer", "System", "Arrays", "float", "double", "Object", "enum",
+                "record", "interface", "var", "->", "::")) {
             boolean there = Pattern.compile(word.matches("\\w+") ? "\\b" + word + "\\b" : word).matcher(text).find();
             must("without " + word, !there);
         }
@@ -97,6 +98,24 @@ public final class FaceTests {
             must(names.get(m) + " has no call inside of a call's arguments", !callsInArguments(bodies.get(m), names));
         }
         depths(names, bodies);
+        arrays(text);
+    }
+
+    /** Each array is of one dimension and made once, by a field's initialiser, with a literal or a constant as length. */
+    private static void arrays(String text) {
+        must("arrays of one dimension", !Pattern.compile("\\]\\s*\\[").matcher(text).find());
+        String field = "(?m)^    private (?:final )?(\\w+)\\[\\] (\\w+) = new \\1\\[(\\w+)\\];$";
+        Matcher made = Pattern.compile(field).matcher(text);
+        int initialised = 0;
+        while (made.find()) {
+            initialised++;
+            boolean constant = Pattern.compile("\\b" + made.group(3) + " = ").matcher(text).find();
+            must(made.group(2) + " has a fixed length", constant || made.group(3).matches("[1-9]\\d*"));
+            boolean again = Pattern.compile("(?<!\\] )\\b" + made.group(2) + " = ").matcher(text).find();
+            must(made.group(2) + " is made once", !again);
+        }
+        long all = Pattern.compile("\\bnew\\b").matcher(text).results().count();
+        must("each new is a field's array, " + initialised + " of " + all, initialised == all);
     }
 
     /** The methods and the constructor: what stands in braces right inside of the class's own, after a bracket. */
